@@ -583,7 +583,7 @@ public final class PrizePurses {
     }
 
     private void needStall(int stall) {
-        if (stall < 0 || stall >= now.stallCount) {
+        if (!now.hasStall(stall)) {
             throw new IndexOutOfBoundsException("there is no such stall");
         }
     }
@@ -689,7 +689,7 @@ public final class PrizePurses {
         int winsEach;
         /** The greatest level that can be won, NONE if none can. */
         int mostLevel;
-        /** Whether a child has played here in the round that passes; each round begins with false. */
+        /** Whether a child has played here in this round; no copy has it: each round begins anew. */
         boolean taken;
         /** The numbers of prizes, level by level, in a level colour by colour. */
         final int[] shelf = new int[LEVELS * COLOURS];
@@ -704,7 +704,6 @@ public final class PrizePurses {
             plays = 0;
             winsEach = winningPlay(newKind);
             mostLevel = greatestLevelOf(newKind);
-            taken = false;
             for (int i = 0; i < LEVELS * COLOURS; i++) {
                 shelf[i] = 0;
             }
@@ -720,7 +719,6 @@ public final class PrizePurses {
             plays = other.plays;
             winsEach = other.winsEach;
             mostLevel = other.mostLevel;
-            taken = other.taken;
             System.arraycopy(other.shelf, 0, shelf, 0, LEVELS * COLOURS);
         }
 
@@ -934,6 +932,7 @@ public final class PrizePurses {
             }
         }
 
+        /** Copies no more than the stalls that stand: setting one up sets all of it. */
         void copyFrom(Fair other) {
             bank = other.bank;
             town = other.town;
@@ -946,7 +945,7 @@ public final class PrizePurses {
             System.arraycopy(other.rain, 0, rain, 0, HOURS);
             System.arraycopy(other.won, 0, won, 0, LEVELS);
             stallCount = other.stallCount;
-            for (int i = 0; i <= MOST_STALLS; i++) {
+            for (int i = 0; i < stallCount; i++) {
                 stalls[i].copyFrom(other.stalls[i]);
             }
             children.copyFrom(other.children);
@@ -954,8 +953,7 @@ public final class PrizePurses {
 
         /** Carries out the order that was read last; returns false, with nothing done, if it can't. */
         boolean obey(OrderText order) {
-            boolean can = canObey(order);
-            if (!can) {
+            if (!canObey(order)) {
                 return false;
             }
             if (order.verb == BUILD_SIGN) {
@@ -993,6 +991,10 @@ public final class PrizePurses {
             return canPass(order.number);
         }
 
+        boolean hasStall(int stall) {
+            return stall >= 0 && stall < stallCount;
+        }
+
         boolean canBuild(int pitch, boolean hasRoof) {
             return findStall(pitch) == NONE && stallCount < MOST_STALLS && bank >= costOfStall(hasRoof);
         }
@@ -1022,7 +1024,7 @@ public final class PrizePurses {
         }
 
         boolean canRestock(int stall, int level, int many) {
-            return stall < stallCount
+            return hasStall(stall)
                     && stalls[stall].prizesOnShelf() + many <= MOST_ON_SHELF
                     && stalls[stall].purse >= costOfPrize(level) * many;
         }
@@ -1035,7 +1037,7 @@ public final class PrizePurses {
         }
 
         boolean canFund(int stall, int coins) {
-            return stall < stallCount && bank >= coins;
+            return hasStall(stall) && bank >= coins;
         }
 
         void giveCoins(int stall, int coins) {
@@ -1140,30 +1142,32 @@ public final class PrizePurses {
         private void play(int child, Stall stall) {
             // Asked before the play is counted: 1 is this very play.
             boolean wins = stall.playsUntilWin() == 1;
-            children.purse[child] -= stall.price;
-            stall.purse += stall.price;
-            takings += stall.price;
-            stall.plays++;
-            plays++;
-            children.playsHere[child]++;
-            stall.taken = true;
+            pay(child, stall);
             int level = wins ? stall.levelOnOffer() : NONE;
-            if (level != NONE) {
-                winPrize(child, stall, level);
+            int favourite = children.colour[child];
+            int colour = level == NONE ? NONE : stall.colourOnOffer(level, favourite);
+            if (colour != NONE) {
+                handOver(child, stall, level, colour);
+                children.changeMood(child, PRIZE_MOOD + (colour == favourite ? COLOUR_MOOD : 0));
             } else {
                 children.changeMood(child, stall.kind == TEA ? TEA_MOOD : -LOSS_MOOD);
             }
         }
 
-        private void winPrize(int child, Stall stall, int level) {
-            int favourite = children.colour[child];
-            int colour = stall.colourOnOffer(level, favourite);
-            if (colour != NONE) {
-                stall.shelf[level * COLOURS + colour]--;
-                won[level]++;
-                children.prizes[child]++;
-                children.changeMood(child, PRIZE_MOOD + (colour == favourite ? COLOUR_MOOD : 0));
-            }
+        private void pay(int child, Stall stall) {
+            children.purse[child] -= stall.price;
+            children.playsHere[child]++;
+            stall.purse += stall.price;
+            stall.plays++;
+            stall.taken = true;
+            takings += stall.price;
+            plays++;
+        }
+
+        private void handOver(int child, Stall stall, int level, int colour) {
+            stall.shelf[level * COLOURS + colour]--;
+            children.prizes[child]++;
+            won[level]++;
         }
 
         private void endDay() {

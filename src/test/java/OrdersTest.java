@@ -38,6 +38,20 @@ final class OrdersTest {
         DUE.is("14: empty again", x.textError(), 0);
         DUE.is("13: empty", x.clearText(), 0);
         DUE.is("59: no action", x.recordedStates(), 0);
+        // Signs of an earlier text may not show through behind the end of a shorter one.
+        String longer = "p12;b10h1^;r0:00*12;f0+12;c12h0;w0=1";
+        String[] texts = {"p1", "p12;b1h1", "p12;b10h1", "p12;b10h1^;r0:00*1", "p12;b10h1^;r0:00*12;f0+1"};
+        for (String text : texts) {
+            Scene.typed(x, longer);
+            Scene.typed(x, text);
+            DUE.is("14: " + text, x.textError(), NONE);
+        }
+        for (int length = 0; length < longer.length(); length++) {
+            PrizePurses y = Scene.typed(new PrizePurses(), longer.substring(0, length));
+            Scene.typed(x, longer);
+            Scene.typed(x, longer.substring(0, length));
+            DUE.is("14: begun to " + length, x.textError(), y.textError());
+        }
     }
 
     private static void error(String text, int want) {
@@ -206,6 +220,14 @@ final class OrdersTest {
         impossible(x, "b4h1", NONE);
         impossible(x, "r1:00*1", 0);
         impossible(x, "r0:00*1", 0);
+        x.build(4, PrizePurses.DIP, 1, false);
+        x.fund(1, 20);
+        impossible(x, "r1:00*1", NONE);
+        x.pullDown(0);
+        impossible(x, "r1:00*1", 0);
+        x.undo();
+        x.undo();
+        x.undo();
         impossible(x, "f1+1", 0);
         impossible(x, "f0+1", NONE);
         impossible(x, "f0+99;f0+99;f0+99;f0+99;f0+75", 4);
@@ -228,7 +250,7 @@ final class OrdersTest {
         impossible(x, "c0h0", NONE);
         impossible(x, "c0h0;c0h0;p1", 1);
         impossible(x, "c0h0;p23;c0h0", NONE);
-        DUE.is("59: no action", x.recordedStates(), 4);
+        DUE.is("59: the children who came", x.recordedStates(), 4);
     }
 
     private static void ordersAfterOneAnother() {

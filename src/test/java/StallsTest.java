@@ -143,6 +143,34 @@ final class StallsTest {
         x.build(7, PrizePurses.COCONUTS, 2, false);
         DUE.is("3: a new stall has an empty shelf", x.shelfOf(0), 0);
         DUE.is("3: an empty purse", x.pullDown(0), 0);
+        aStallAfterAnother();
+    }
+
+    /** A new stall has nothing of those that had its number before. */
+    private static void aStallAfterAnother() {
+        PrizePurses x = Scene.quiet();
+        x.build(1, PrizePurses.TEA, 9, true);
+        x.build(0, PrizePurses.HOOPLA, 1, true);
+        x.fund(1, 40);
+        x.restock(1, 2, 2, 3);
+        x.restock(1, 0, 0, 3);
+        x.restock(1, 3, 3, 1);
+        x.come(1, PrizePurses.HOOPLA, 0);
+        x.pass(1);
+        x.turnStall(1);
+        x.pullDown(0);
+        DUE.is("2: the second", x.build(2, PrizePurses.DARTS, 4, false), 1);
+        DUE.is("2: its purse", x.purseOfStall(1), 0);
+        DUE.is("2: its plays", x.playsOf(1), 0);
+        DUE.is("2: its shelf", x.shelfOf(1), 0);
+        DUE.is("2: it is open", x.isOpen(1), true);
+        DUE.is("2: its next win", x.playsToWin(1), 3);
+        x.setRain(0, 9);
+        x.setRain(1, 9);
+        x.come(0, 0, 0);
+        x.pass(3);
+        DUE.is("2: it has no roof", x.moodOf(1), 60 - 12);
+        DUE.is("52: coins", x.coinsByPlaces(), x.allCoins());
     }
 
     private static void prices() {

@@ -12,6 +12,8 @@ final class UndoTest {
         snapshots();
         theSnapshotIsNoState();
         childrenWhoCameLater();
+        childrenWhoPlayed();
+        favourites();
         DUE.end();
     }
 
@@ -199,6 +201,38 @@ final class UndoTest {
         DUE.is("59: restoring is an action", x.recordedStates(), 4);
         DUE.is("17: undone", x.undo(), 3);
         DUE.is("47: rain", x.rainIn(0), 5);
+    }
+
+    private static void childrenWhoPlayed() {
+        PrizePurses x = Scene.stocked(PrizePurses.DIP, 1, false, 1, 1, 1);
+        x.takeSnapshot();
+        x.come(9, PrizePurses.DIP, 1);
+        x.pass(2);
+        DUE.is("40: prizes", x.prizesOf(0), 2);
+        DUE.is("41: enough", x.whyNoPlay(0), PrizePurses.ENOUGH);
+        x.restoreSnapshot();
+        x.come(9, PrizePurses.DIP, 1);
+        DUE.is("40: none", x.prizesOf(0), 0);
+        DUE.is("41: it would play", x.whyNoPlay(0), 0);
+        DUE.is("37: mood", x.moodOf(0), 60);
+    }
+
+    /** What a child likes best comes back, too. */
+    private static void favourites() {
+        PrizePurses x = Scene.stocked(PrizePurses.DIP, 1, false, 1, 1, 2, 2);
+        x.come(9, PrizePurses.DIP, 1);
+        x.takeSnapshot();
+        x.undo();
+        x.come(9, PrizePurses.TEA, 2);
+        x.restoreSnapshot();
+        x.pass(1);
+        DUE.is("19: its favourite colour", x.prizesOn(0, 0, 1), 1);
+        DUE.is("19: its mood by that", x.moodOf(0), 90);
+        DUE.is("17: undone", x.undo(), 3);
+        DUE.is("17: undone", x.undo(), 2);
+        x.pass(1);
+        DUE.is("17: the other colour", x.prizesOn(0, 0, 2), 1);
+        DUE.is("17: the other mood", x.moodOf(0), 90);
     }
 
     /** A child who was undone leaves nothing to the one who comes with the same number. */
