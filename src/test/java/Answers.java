@@ -3,6 +3,12 @@ final class Answers {
     private Answers() {
     }
 
+    /** Few answers, for an object that is asked often: it answers 512 calls. */
+    static String few(PrizePurses x) {
+        return "states " + x.recordedStates() + " bank " + x.bank() + " coins " + x.coinsByPlaces()
+                + " stalls " + x.stalls() + " children " + x.children() + " round " + x.round();
+    }
+
     static String of(PrizePurses x) {
         StringBuilder all = new StringBuilder();
         all.append("bank ").append(x.bank()).append(" town ").append(x.town());

@@ -83,10 +83,14 @@ final class ChildSentences {
             x.come(9, PrizePurses.DIP, 1);
             x.pass(2);
             due.is("60 and twice 30 more", x.moodOf(0), 100);
-            PrizePurses y = Scene.rain(new PrizePurses(), 9);
+            PrizePurses y = Scene.rain(new PrizePurses(), 7);
             y.come(0, 0, 0);
-            y.pass(20);
-            due.is("60 less 20 times 4", y.moodOf(0), 0);
+            y.pass(1);
+            Scene.rain(y, 9);
+            y.pass(14);
+            due.is("60 less 3 and 14 times 4", y.moodOf(0), 1);
+            y.pass(1);
+            due.is("less 4", y.moodOf(0), 0);
         });
         s.holds("(60 as it comes),", due -> {
             PrizePurses x = Scene.busy();
@@ -134,6 +138,7 @@ final class ChildSentences {
         s.holds("and a number of plays here (0 as it comes).", due -> {
             PrizePurses x = Scene.quiet();
             x.build(0, PrizePurses.TEA, 1, false);
+            x.takeSnapshot();
             x.come(9, 0, 0);
             due.is("reason at 0", x.whyNoPlay(0), 0);
             x.pass(1);
@@ -142,10 +147,7 @@ final class ChildSentences {
             due.is("reason at 2", x.whyNoPlay(0), PrizePurses.ENOUGH);
             x.come(9, 0, 0);
             due.is("reason of the next child", x.whyNoPlay(1), 0);
-            x.undo();
-            x.undo();
-            x.undo();
-            x.undo();
+            x.restoreSnapshot();
             due.is("nobody has come", x.children(), 0);
             x.come(9, 0, 0);
             due.is("reason of the one who comes instead", x.whyNoPlay(0), 0);

@@ -205,9 +205,9 @@ final class ChildrenTest {
     }
 
     private static void questionsAboutNoChild() {
-        PrizePurses x = Scene.quiet();
-        x.come(1, 0, 0);
         for (int wrong : new int[] {-1, 1, 200, Integer.MIN_VALUE, Integer.MAX_VALUE}) {
+            PrizePurses x = Scene.quiet();
+            x.come(1, 0, 0);
             DUE.noIndex(x, "35: child " + wrong, () -> x.isAtFair(wrong) ? 1 : 0);
             DUE.noIndex(x, "36: child " + wrong, () -> x.purseOf(wrong));
             DUE.noIndex(x, "37: child " + wrong, () -> x.moodOf(wrong));

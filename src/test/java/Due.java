@@ -51,11 +51,11 @@ final class Due {
         }
     }
 
-    /** The call throws just this exception, and every answer of the object is the same afterwards. */
+    /** The call throws just this exception, and some answers are the same afterwards; refused asks for all. */
     void fails(PrizePurses x, String what, Class<? extends RuntimeException> want, Call call) {
-        String before = Answers.of(x);
+        String before = Answers.few(x);
         is(what, outcome(call), want.getSimpleName());
-        is(what + ": the state after it", Answers.of(x), before);
+        is(what + ": the state after it", Answers.few(x), before);
     }
 
     void noIndex(PrizePurses x, String what, Call call) {
@@ -96,6 +96,11 @@ final class Due {
     void taken(String what, Call call) {
         String outcome = outcome(call);
         is(what, outcome.startsWith("answered") ? "answered" : outcome, "answered");
+    }
+
+    /** Returns how many answers have not been as due so far. */
+    int wrong() {
+        return wrong;
     }
 
     void end() {

@@ -42,15 +42,14 @@ final class OrdersTest {
         String longer = "p12;b10h1^;r0:00*12;f0+12;c12h0;w0=1";
         String[] texts = {"p1", "p12;b1h1", "p12;b10h1", "p12;b10h1^;r0:00*1", "p12;b10h1^;r0:00*12;f0+1"};
         for (String text : texts) {
-            Scene.typed(x, longer);
-            Scene.typed(x, text);
-            DUE.is("14: " + text, x.textError(), NONE);
+            PrizePurses y = Scene.typed(Scene.typed(new PrizePurses(), longer), text);
+            DUE.is("14: " + text, y.textError(), NONE);
         }
         for (int length = 0; length < longer.length(); length++) {
-            PrizePurses y = Scene.typed(new PrizePurses(), longer.substring(0, length));
-            Scene.typed(x, longer);
-            Scene.typed(x, longer.substring(0, length));
-            DUE.is("14: begun to " + length, x.textError(), y.textError());
+            String begun = longer.substring(0, length);
+            PrizePurses y = Scene.typed(new PrizePurses(), begun);
+            PrizePurses z = Scene.typed(Scene.typed(new PrizePurses(), longer), begun);
+            DUE.is("14: begun to " + length, z.textError(), y.textError());
         }
     }
 
@@ -180,9 +179,8 @@ final class OrdersTest {
         String[] begun = {"", "b", "b3", "b3h", "b3h4", "b3h4^"};
         String[] due = {"brfcwp", "0123456789", "hdclt", "123456789", "^;", ";"};
         for (int i = 0; i < begun.length; i++) {
-            PrizePurses x = new PrizePurses();
             for (char sign = 0; sign < 400; sign++) {
-                Scene.typed(x, begun[i] + sign);
+                PrizePurses x = Scene.typed(new PrizePurses(), begun[i] + sign);
                 boolean errs = x.textError() == i;
                 DUE.is("14: " + begun[i] + " and then " + (int) sign, errs, due[i].indexOf(sign) < 0);
             }
@@ -203,67 +201,73 @@ final class OrdersTest {
         DUE.is("14: in the middle", x.textError(), 77);
     }
 
-    private static void impossible(PrizePurses x, String text, int want) {
-        Scene.typed(x, text);
-        String before = Answers.of(x);
+    private static void impossible(Due.Maker fair, String text, int want) {
+        PrizePurses x = Scene.typed(fair.make(), text);
         DUE.is("15: " + text, x.impossibleOrder(), want);
-        DUE.is("15: nothing changes", Answers.of(x), before);
+        DUE.is("15: nothing changes", Answers.of(x), Answers.of(Scene.typed(fair.make(), text)));
         if (want != NONE) {
-            DUE.noState(x, "16: " + text, x::carryOut);
+            DUE.noState("16: " + text, () -> Scene.typed(fair.make(), text), PrizePurses::carryOut);
         }
     }
 
-    private static void whatCannotBeCarriedOut() {
+    private static PrizePurses withOneStall() {
         PrizePurses x = Scene.quiet();
         x.build(3, PrizePurses.DIP, 1, false);
-        impossible(x, "b3h1", 0);
-        impossible(x, "b4h1", NONE);
-        impossible(x, "r1:00*1", 0);
-        impossible(x, "r0:00*1", 0);
+        return x;
+    }
+
+    private static PrizePurses withTwoStalls() {
+        PrizePurses x = withOneStall();
         x.build(4, PrizePurses.DIP, 1, false);
         x.fund(1, 20);
-        impossible(x, "r1:00*1", NONE);
+        return x;
+    }
+
+    private static PrizePurses withoutTheFirst() {
+        PrizePurses x = withTwoStalls();
         x.pullDown(0);
-        impossible(x, "r1:00*1", 0);
-        x.undo();
-        x.undo();
-        x.undo();
-        impossible(x, "f1+1", 0);
-        impossible(x, "f0+1", NONE);
-        impossible(x, "f0+99;f0+99;f0+99;f0+99;f0+75", 4);
-        impossible(x, "f0+99;f0+99;f0+99;f0+99;f0+74", NONE);
-        impossible(x, "f0+99;f0+99;f0+99;f0+99;f0+44;b4h1", NONE);
-        impossible(x, "f0+99;f0+99;f0+99;f0+99;f0+45;b4h1", 5);
-        impossible(x, "f0+99;f0+99;f0+99;f0+99;f0+24;b4h1^", NONE);
-        impossible(x, "f0+99;f0+99;f0+99;f0+99;f0+25;b4h1^", 5);
-        impossible(x, "f0+40;r0:00*40;r0:00*1", 2);
-        impossible(x, "f0+41;r0:00*40;r0:00*1", 2);
-        impossible(x, "f0+60;r0:30*6;r0:30*1", 2);
-        impossible(x, "f0+70;r0:30*6;r0:30*1", NONE);
-        impossible(x, "f0+10;r0:20*2", 1);
-        impossible(x, "f0+12;r0:20*2", NONE);
-        impossible(x, "w0=9;c0h0;p40", NONE);
-        impossible(x, "b0h1;b1h1;b2h1;b4h1;b5h1;b6h1", 5);
+        return x;
+    }
+
+    private static void whatCannotBeCarriedOut() {
+        impossible(OrdersTest::withOneStall, "b3h1", 0);
+        impossible(OrdersTest::withOneStall, "b4h1", NONE);
+        impossible(OrdersTest::withOneStall, "r1:00*1", 0);
+        impossible(OrdersTest::withOneStall, "r0:00*1", 0);
+        impossible(OrdersTest::withTwoStalls, "r1:00*1", NONE);
+        impossible(OrdersTest::withoutTheFirst, "r1:00*1", 0);
+        String[] texts = {
+            "f1+1", "f0+1", "f0+99;f0+99;f0+99;f0+99;f0+75", "f0+99;f0+99;f0+99;f0+99;f0+74",
+            "f0+99;f0+99;f0+99;f0+99;f0+44;b4h1", "f0+99;f0+99;f0+99;f0+99;f0+45;b4h1",
+            "f0+99;f0+99;f0+99;f0+99;f0+24;b4h1^", "f0+99;f0+99;f0+99;f0+99;f0+25;b4h1^",
+            "f0+40;r0:00*40;r0:00*1", "f0+41;r0:00*40;r0:00*1", "f0+60;r0:30*6;r0:30*1",
+            "f0+70;r0:30*6;r0:30*1", "f0+10;r0:20*2", "f0+12;r0:20*2", "w0=9;c0h0;p40",
+            "b0h1;b1h1;b2h1;b4h1;b5h1;b6h1",
+        };
+        int[] due = {0, NONE, 4, NONE, NONE, 5, NONE, 5, 2, 2, 2, NONE, 1, NONE, NONE, 5};
+        for (int i = 0; i < texts.length; i++) {
+            impossible(OrdersTest::withOneStall, texts[i], due[i]);
+        }
+        PrizePurses x = withOneStall();
         for (int i = 0; i < 39; i++) {
             x.come(0, 0, 0);
         }
-        impossible(x, "c0h0", NONE);
-        impossible(x, "c0h0;c0h0;p1", 1);
-        impossible(x, "c0h0;p23;c0h0", NONE);
+        DUE.is("15: the 40th", Scene.typed(x, "c0h0").impossibleOrder(), NONE);
+        DUE.is("15: the 41st", Scene.typed(x, "c0h0;c0h0;p1").impossibleOrder(), 1);
+        DUE.is("15: when all have gone", Scene.typed(x, "c0h0;p23;c0h0").impossibleOrder(), NONE);
         DUE.is("59: the children who came", x.recordedStates(), 4);
     }
 
     private static void ordersAfterOneAnother() {
-        PrizePurses x = new PrizePurses();
-        impossible(x, "f0+1", 0);
-        impossible(x, "f0+1;b0h1", 0);
-        impossible(x, "b0h1;f0+1", NONE);
-        impossible(x, "b0h1;f0+1;r0:00*1;r0:00*1", 3);
-        impossible(x, "b0h1;b1h1;f1+1;f2+1;f0+1", 3);
-        // A child who pays at the stall: then it can buy the prize.
-        impossible(x, "w0=5;b1h3;c9h0;p1;r0:00*3", 4);
-        impossible(x, "w0=5;b1h3;c9h0;p2;r0:00*3", NONE);
-        impossible(x, "w0=5;b1h3;c9h0;p2;r0:00*4", 4);
+        String[] texts = {
+            "f0+1", "f0+1;b0h1", "b0h1;f0+1", "b0h1;f0+1;r0:00*1;r0:00*1", "b0h1;b1h1;f1+1;f2+1;f0+1",
+            // A child who pays at the stall: then it can buy the prize.
+            "w0=5;b1h3;c9h0;p1;r0:00*3", "w0=5;b1h3;c9h0;p2;r0:00*3", "w0=5;b1h3;c9h0;p2;r0:00*4",
+        };
+        int[] due = {0, 0, NONE, 3, 3, 4, NONE, 4};
+        for (int i = 0; i < texts.length; i++) {
+            impossible(PrizePurses::new, texts[i], due[i]);
+        }
     }
 
     private static void carryingOut() {

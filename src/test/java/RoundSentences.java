@@ -166,8 +166,13 @@ final class RoundSentences {
             PrizePurses z = Scene.manyChildren(199);
             z.pass(40);
             Scene.rain(z, 0);
-            z.pass(40);
+            due.is("the 200th comes", z.isChildDue(), true);
+            z.pass(1);
             due.is("the last of 200", z.children(), 200);
+            int coins = z.allCoins();
+            z.pass(39);
+            due.is("the 201st does not come", z.children(), 200);
+            due.is("nor bring coins", z.allCoins(), coins);
         });
         s.holds("Its purse is 5 plus what is left of 7 times its number divided by 25,", due -> {
             PrizePurses x = new PrizePurses();

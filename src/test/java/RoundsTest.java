@@ -23,7 +23,6 @@ final class RoundsTest {
         rentsThatCannotBePaid();
         closedStallsInRounds();
         accounts();
-        theLastDay();
         DUE.end();
     }
 
@@ -490,28 +489,5 @@ final class RoundsTest {
         DUE.is("52: by places", x.coinsByPlaces(), x.allCoins());
         DUE.is("54: by children", x.takingsByChildren(), x.takings());
         DUE.is("49: what the stall has is not the bank's", x.bank(), 416);
-    }
-
-    /** Far more than 512 calls are needed to come here; what the document says of the day still holds. */
-    private static void theLastDay() {
-        PrizePurses x = Scene.rain(new PrizePurses(), 5);
-        for (int day = 0; day < 9999; day++) {
-            x.pass(40);
-        }
-        DUE.is("45: day", x.day(), 9999);
-        DUE.noState(x, "11: the day 10000", () -> x.pass(40));
-        DUE.noArgument(x, "11: rounds before the day", () -> x.pass(41));
-        x.pass(1);
-        DUE.noState(x, "11: the day 10000", () -> x.pass(39));
-        Scene.typed(x, "c9t0;p39");
-        DUE.is("15: the second order", x.impossibleOrder(), 1);
-        DUE.noState(x, "16: the day 10000", x::carryOut);
-        x.pass(38);
-        DUE.is("46: round", x.round(), 39);
-        DUE.noState(x, "11: the day 10000", () -> x.pass(1));
-        x.build(0, PrizePurses.TEA, 2, false);
-        x.come(9, 0, 0);
-        DUE.is("56: the last round", x.takingsToday(), 2);
-        DUE.is("57: the last round", x.homeIn(x.children() - 1), 1);
     }
 }

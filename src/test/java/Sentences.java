@@ -26,12 +26,15 @@ final class Sentences {
     private static final Pattern PROMISE = Pattern.compile("## (Promise \\d+): .*");
 
     private final Due due = new Due();
+    /** The one quote, with its chapter, whose test is run; null for all of them. */
+    private final String only;
     /** What is still to be quoted of each chapter. */
     private final Map<String, String> rest = new LinkedHashMap<>();
     private String chapter = "";
     private int told;
 
-    Sentences() throws IOException {
+    Sentences(String only) throws IOException {
+        this.only = only;
         List<String> lines = Files.readAllLines(DOCUMENT, StandardCharsets.UTF_8);
         for (String line : lines.subList(lines.indexOf("## Terms"), lines.indexOf("## Not promised"))) {
             read(line.strip());
@@ -77,14 +80,21 @@ final class Sentences {
     /** The words that come next in the chapter, and the test that fails if they do not hold. */
     void holds(String words, Test test) {
         String left = rest.get(chapter);
-        told++;
         due.about("");
         if (left.startsWith(words)) {
             rest.put(chapter, left.substring(words.length()).strip());
         } else {
             due.is(chapter + ", what comes next", left, words);
         }
-        due.about(chapter + " | " + words + " | ");
+        String quote = chapter + " | " + words;
+        if (only == null || only.equals(quote)) {
+            run(quote, test);
+        }
+    }
+
+    private void run(String quote, Test test) {
+        due.about(quote + " | ");
+        told++;
         try {
             test.run(due);
         } catch (RuntimeException e) {
@@ -169,6 +179,14 @@ final class Sentences {
         }
         due.refused(what + "least of all", want, fair, x -> call.answer(x, Integer.MIN_VALUE));
         due.refused(what + "greatest of all", want, fair, x -> call.answer(x, Integer.MAX_VALUE));
+    }
+
+    int told() {
+        return told;
+    }
+
+    int wrong() {
+        return due.wrong();
     }
 
     void end() {

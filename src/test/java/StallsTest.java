@@ -329,9 +329,9 @@ final class StallsTest {
     }
 
     private static void questionsAboutNoStall() {
-        PrizePurses x = new PrizePurses();
-        x.build(0, 0, 1, false);
         for (int wrong : new int[] {-1, 1, 6, Integer.MIN_VALUE, Integer.MAX_VALUE}) {
+            PrizePurses x = new PrizePurses();
+            x.build(0, 0, 1, false);
             DUE.noIndex(x, "21: stall " + wrong, () -> x.pitchOf(wrong));
             DUE.noIndex(x, "23: stall " + wrong, () -> x.priceOf(wrong));
             DUE.noIndex(x, "24: stall " + wrong, () -> x.isOpen(wrong) ? 1 : 0);

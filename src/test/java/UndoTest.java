@@ -166,14 +166,26 @@ final class UndoTest {
         x.pass(25);
         DUE.is("19: bank", x.restoreSnapshot(), 370);
         DUE.is("19: the state", state(x), first);
+        snapshotsAreKept();
+    }
+
+    private static void snapshotsAreKept() {
+        PrizePurses x = begun();
+        x.takeSnapshot();
         x.pass(1);
         String second = state(x);
         x.collect(0);
         DUE.is("19: it is kept", x.restoreSnapshot(), 370);
-        DUE.is("19: the state", state(x), first);
+        DUE.is("19: the state", state(x), state(begun()));
         DUE.is("17: undone", x.undo(), 3);
         DUE.is("17: undone", x.undo(), 2);
         DUE.is("17: the state before", state(x), second);
+        replacedSnapshots();
+    }
+
+    private static void replacedSnapshots() {
+        PrizePurses x = begun();
+        x.takeSnapshot();
         x.fund(0, 10);
         DUE.is("18: it replaces the other", x.takeSnapshot(), 360);
         String third = state(x);
