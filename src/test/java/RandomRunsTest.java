@@ -1,15 +1,18 @@
 /**
  * Runs of 512 calls, drawn by a generator with fixed seeds, on a PrizePurses and on a PlainFair:
- * every answer and every exception is the same on both.
+ * every answer and every exception is the same on both. A run ends with its 512th call, in the midst
+ * of a text or of the accounts too: what an object answers behind that is free.
  */
 final class RandomRunsTest {
-    private static final int RUNS = 400;
+    private static final int RUNS = 1600;
     private static final int CALLS = 512;
 
     private final PrizePurses x = new PrizePurses();
     private final PlainFair plain = new PlainFair();
+    /** 1: many children come; 2: much rain; 3: days pass quickly. */
     private final int mood;
     private long seed;
+    private int calls;
     private String call = "";
     private long got;
     private long want;
@@ -80,36 +83,38 @@ final class RandomRunsTest {
     }
 
     private void both(String name, Answer mine, Answer theirs) {
+        if (calls == CALLS) {
+            return;
+        }
+        calls++;
         call = name;
         got = answerOf(mine);
         want = answerOf(theirs);
     }
 
     private boolean play(int run) {
-        for (int i = 0; i < CALLS; i++) {
-            anyCall();
-            if (got != want) {
-                System.out.println("run " + run + ", call " + i + ": " + call + " answered " + got
-                        + ", due is " + want);
-                return false;
+        while (calls < CALLS) {
+            if (below(30) == 0) {
+                allAccounts();
+            } else {
+                anyCall();
             }
-            if (below(6) == 0 && !sameAccounts(run, i)) {
+            if (got != want) {
+                System.out.println("run " + run + ", call " + calls + ": " + call + " answered " + got
+                        + ", due is " + want);
                 return false;
             }
         }
         return true;
     }
 
-    private boolean sameAccounts(int run, int i) {
+    private void allAccounts() {
         for (int which = 0; which < 16; which++) {
             ofFair(which);
             if (got != want) {
-                System.out.println("run " + run + ", behind call " + i + ": " + call + " answered " + got
-                        + ", due is " + want);
-                return false;
+                return;
             }
         }
-        return true;
     }
 
     private void anyCall() {
@@ -171,7 +176,7 @@ final class RandomRunsTest {
             both("come(" + purse + ", " + kind + ", " + colour + ")",
                     () -> x.come(purse, kind, colour), () -> plain.come(purse, kind, colour));
         } else if (chance < 90) {
-            int rounds = below(4) == 0 ? about(1, 40) : about(1, 5);
+            int rounds = mood == 3 || below(4) == 0 ? about(1, 40) : about(1, 5);
             both("pass(" + rounds + ")", () -> x.pass(rounds), () -> plain.pass(rounds));
         } else if (chance < 93) {
             int hour = about(0, 9);
@@ -234,7 +239,7 @@ final class RandomRunsTest {
             case 4:
                 return "w" + below(10) + "=" + below(mood == 2 ? 10 : 3);
             default:
-                return "p" + (1 + below(below(4) == 0 ? 40 : 6));
+                return "p" + (1 + below(mood == 3 || below(4) == 0 ? 40 : 6));
         }
     }
 
