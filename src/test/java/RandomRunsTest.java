@@ -4,8 +4,8 @@
  * of a text or of the accounts too: what an object answers behind that is free.
  */
 final class RandomRunsTest {
-    private static final int RUNS = 1600;
-    private static final int CALLS = 512;
+    static final int RUNS = 1600;
+    static final int CALLS = 512;
 
     private final PrizePurses x = new PrizePurses();
     private final PlainFair plain = new PlainFair();

@@ -2,15 +2,18 @@ import java.io.IOException;
 import java.nio.charset.StandardCharsets;
 import java.nio.file.Files;
 import java.nio.file.Path;
+import java.util.HashSet;
 import java.util.LinkedHashMap;
 import java.util.List;
 import java.util.Map;
+import java.util.Set;
 import java.util.regex.Matcher;
 import java.util.regex.Pattern;
 
 /**
- * The document, chapter by chapter ("RAIN", "Promise 7"): its words are quoted in their order, each quote
- * with a test of its own, and no word may be left out. So a sentence without a test is seen.
+ * The document, chapter by chapter ("What it is", "RAIN", "Promise 7"), up to what it does not promise: its words
+ * are quoted in their order, each quote with a test of its own, and no word may be left out. So a sentence
+ * without a test is seen.
  */
 final class Sentences {
     interface Test {
@@ -30,13 +33,16 @@ final class Sentences {
     private final String only;
     /** What is still to be quoted of each chapter. */
     private final Map<String, String> rest = new LinkedHashMap<>();
+    /** What the promises say before their words: the methods, as the public face has them. */
+    private final Set<String> signatures = new HashSet<>();
     private String chapter = "";
+    private int quoted;
     private int told;
 
     Sentences(String only) throws IOException {
         this.only = only;
         List<String> lines = Files.readAllLines(DOCUMENT, StandardCharsets.UTF_8);
-        for (String line : lines.subList(lines.indexOf("## Terms"), lines.indexOf("## Not promised"))) {
+        for (String line : lines.subList(lines.indexOf("## What it is"), lines.indexOf("## Not promised"))) {
             read(line.strip());
         }
     }
@@ -44,28 +50,35 @@ final class Sentences {
     private void read(String line) {
         Matcher terms = TERMS.matcher(line);
         Matcher promise = PROMISE.matcher(line);
-        if (line.equals("## Terms")) {
-            chapter = "Terms";
-        } else if (promise.matches()) {
+        boolean begins = !rest.containsKey(chapter);
+        if (promise.matches()) {
             chapter = promise.group(1);
+        } else if (line.startsWith("## ")) {
+            chapter = line.substring("## ".length());
         } else if (terms.matches()) {
             chapter = terms.group(1);
             add(terms.group(2));
         } else if (line.startsWith("The constants: ")) {
             chapter = "The constants";
             add(line.substring("The constants: ".length()));
-        } else if (chapter.startsWith("Promise") && !rest.containsKey(chapter) && line.contains(")`: ")) {
-            // The signature is what FaceTest looks at.
+        } else if (line.startsWith("Ahead of the calls ")) {
+            chapter = "The interface";
+            add(line);
+        } else if (chapter.startsWith("Promise ") && begins && line.startsWith("`")) {
+            signatures.add(line.substring(1, line.indexOf("`: ")));
             add(line.substring(line.indexOf("`: ") + 3));
-        } else if (chapter.startsWith("Promise") && !rest.containsKey(chapter) && line.contains("Exception`: ")) {
-            add(line.substring(line.indexOf("`: ") + 3));
-        } else if (!line.isEmpty() && !line.startsWith("Ahead of the calls ")) {
+        } else if (!line.isEmpty() && !line.startsWith("```")) {
             add(line.replaceFirst("^(- |\\d\\. )", ""));
         }
     }
 
     private void add(String words) {
         rest.merge(chapter, words, (before, more) -> before + " " + more);
+    }
+
+    /** Tells whether one of the promises has the method. */
+    boolean promises(String signature) {
+        return signatures.contains(signature);
     }
 
     void chapter(String name) {
@@ -86,6 +99,7 @@ final class Sentences {
         } else {
             due.is(chapter + ", what comes next", left, words);
         }
+        quoted++;
         String quote = chapter + " | " + words;
         if (only == null || only.equals(quote)) {
             run(quote, test);
@@ -181,6 +195,12 @@ final class Sentences {
         due.refused(what + "greatest of all", want, fair, x -> call.answer(x, Integer.MAX_VALUE));
     }
 
+    /** Returns how many quotes there are. */
+    int quoted() {
+        return quoted;
+    }
+
+    /** Returns how many of them have had their tests run. */
     int told() {
         return told;
     }
@@ -194,7 +214,7 @@ final class Sentences {
         for (Map.Entry<String, String> left : rest.entrySet()) {
             due.is(left.getKey() + ", what is not quoted", left.getValue(), "");
         }
-        System.out.println(told + " quotes");
+        System.out.println(quoted + " quotes");
         due.end();
     }
 }

@@ -12,6 +12,7 @@ final class SentencesTest {
     /** Runs the tests of all quotes, or of the one that is named with its chapter. */
     static Sentences told(String only) throws IOException {
         Sentences s = new Sentences(only);
+        FaceSentences.tell(s);
         StallSentences.tell(s);
         ChildSentences.tell(s);
         RoundSentences.tell(s);
@@ -19,6 +20,11 @@ final class SentencesTest {
         UndoSentences.tell(s);
         ForecastSentences.tell(s);
         return s;
+    }
+
+    /** Returns how many quotes there are. */
+    static int quotes() throws IOException {
+        return told("").quoted();
     }
 
     /** Returns how many answers are not as due at that quote, -1 if there is no such quote. */
